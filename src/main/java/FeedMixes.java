@@ -15,11 +15,11 @@ public final class FeedMixes {
     private static final int MOST_SILO = 40;
     private static final int MEDICINES = 3;
 
-    // A bound's number is where its kind begins, plus its stuff or nutrient.
-    private static final int LEAST_SHARES = 4;
-    private static final int MOST_SHARES = 8;
-    private static final int LEAST_NEEDS = 12;
-    private static final int MOST_NEEDS = 15;
+    // A bound's number is the first of its kind plus its stuff or nutrient; stocks begin at 0.
+    private static final int FIRST_LEAST_SHARE = 4;
+    private static final int FIRST_MOST_SHARE = 8;
+    private static final int FIRST_LEAST_NEED = 12;
+    private static final int FIRST_MOST_NEED = 15;
     private static final int BOUNDS = 18;
 
     // A row is what a bound speaks of: the amount of a stuff, then all of a nutrient.
@@ -33,7 +33,7 @@ public final class FeedMixes {
     private static final int CLASHED = 1;
     private static final int NOT_GOOD = 2;
 
-    // Euclid's steps for two longs are fewer than this.
+    // Euclid needs fewer steps for any two longs.
     private static final int MOST_STEPS = 100;
 
     private final Told told = new Told();
@@ -181,6 +181,7 @@ public final class FeedMixes {
         if (least >= told.mostNeed[nutrient] || !mixer.findBest(lastWeight, mixNow)) {
             return NONE;
         }
+        // The need is put back below: nothing may be changed by the question.
         told.leastNeed[nutrient] = least + 1;
         boolean canThen = mixer.findBest(lastWeight, mixThen);
         told.leastNeed[nutrient] = least;
@@ -242,11 +243,12 @@ public final class FeedMixes {
     }
 
     private static int rowOf(int bound) {
-        return bound < LEAST_NEEDS ? bound % STUFFS : STUFFS + (bound - LEAST_NEEDS) % NUTRIENTS;
+        return bound < FIRST_LEAST_NEED ? bound % STUFFS : STUFFS + (bound - FIRST_LEAST_NEED) % NUTRIENTS;
     }
 
     private static boolean isLeast(int bound) {
-        return isWithin(bound, LEAST_SHARES, MOST_SHARES - 1) || isWithin(bound, LEAST_NEEDS, MOST_NEEDS - 1);
+        return isWithin(bound, FIRST_LEAST_SHARE, FIRST_MOST_SHARE - 1)
+                || isWithin(bound, FIRST_LEAST_NEED, FIRST_MOST_NEED - 1);
     }
 
     /** A part of a fraction not below 0, in lowest terms. */
@@ -314,6 +316,10 @@ public final class FeedMixes {
             }
             return order < 0;
         }
+
+        private long sum(int[] each) {
+            return each[0] * amount[0] + each[1] * amount[1] + each[2] * amount[2] + each[3] * amount[3];
+        }
     }
 
     /** Between what each row must lie, in tenths, for a mix of a weight to keep the bounds that are kept. */
@@ -324,9 +330,7 @@ public final class FeedMixes {
         private int kept = 0;
         private final int[] low = new int[ROWS];
         private final int[] high = new int[ROWS];
-        // Beyond these no mix can go, whatever bounds are kept.
-        private final int[] floor = new int[ROWS];
-        private final int[] ceiling = new int[ROWS];
+        private final int[][] leanFirst = new int[NUTRIENTS][STUFFS];
 
         private Limits(Told told) {
             this.told = told;
@@ -337,12 +341,36 @@ public final class FeedMixes {
             whole = TENTHS * weightNow;
             kept = 0;
             for (int row = 0; row < ROWS; row++) {
-                setEnds(row);
+                widen(row);
             }
             for (int bound = 0; bound < BOUNDS; bound++) {
                 if (isThere(bound)) {
                     keep(bound);
                 }
+            }
+            for (int nutrient = 0; nutrient < NUTRIENTS; nutrient++) {
+                sortByPoints(leanFirst[nutrient], told.points[nutrient]);
+            }
+        }
+
+        private static void sortByPoints(int[] stuffs, int[] points) {
+            for (int stuff = 0; stuff < STUFFS; stuff++) {
+                int place = stuff;
+                while (place > 0 && points[stuffs[place - 1]] > points[stuff]) {
+                    stuffs[place] = stuffs[place - 1];
+                    place--;
+                }
+                stuffs[place] = stuff;
+            }
+        }
+
+        /** Gives a row the room that it has in every mix, whatever bounds are kept. */
+        private void widen(int row) {
+            low[row] = 0;
+            if (row >= STUFFS) {
+                high[row] = MOST_POINTS * whole;
+            } else {
+                high[row] = row < told.stuffs ? whole : 0;
             }
         }
 
@@ -361,26 +389,14 @@ public final class FeedMixes {
             int row = rowOf(bound);
             int lowWas = low[row];
             int highWas = high[row];
-            int others = kept & ~(1 << bound);
-            kept = others;
-            low[row] = floor[row];
-            high[row] = ceiling[row];
+            kept &= ~(1 << bound);
+            widen(row);
             for (int other = 0; other < BOUNDS; other++) {
-                if (hasBound(others, other) && rowOf(other) == row) {
+                if (hasBound(kept, other) && rowOf(other) == row) {
                     keep(other);
                 }
             }
             return low[row] != lowWas || high[row] != highWas;
-        }
-
-        /** The bounds that are kept and leave a row no room at all need no search. */
-        private boolean crossEachOther() {
-            for (int row = 0; row < ROWS; row++) {
-                if (low[row] > high[row]) {
-                    return true;
-                }
-            }
-            return false;
         }
 
         private boolean isThere(int bound) {
@@ -390,39 +406,58 @@ public final class FeedMixes {
 
         private int levelOf(int bound) {
             int row = rowOf(bound);
-            if (bound < LEAST_SHARES) {
+            if (bound < FIRST_LEAST_SHARE) {
                 return TENTHS * told.stock[row];
             }
-            if (bound < MOST_SHARES) {
+            if (bound < FIRST_MOST_SHARE) {
                 return weight * told.leastShare[row];
             }
-            if (bound < LEAST_NEEDS) {
+            if (bound < FIRST_LEAST_NEED) {
                 return weight * told.mostShare[row];
             }
-            int[] needs = bound < MOST_NEEDS ? told.leastNeed : told.mostNeed;
+            int[] needs = bound < FIRST_MOST_NEED ? told.leastNeed : told.mostNeed;
             return whole * needs[row - STUFFS];
         }
 
-        private void setEnds(int row) {
-            if (row < STUFFS) {
-                floor[row] = 0;
-                ceiling[row] = row < told.stuffs ? whole : 0;
-            } else {
-                setEndsOfNutrient(row, told.points[row - STUFFS]);
+        /** Can the stuffs be the whole together, whatever nutrients they hold? */
+        private boolean leaveRoomToStuffs() {
+            int least = 0;
+            int most = 0;
+            for (int stuff = 0; stuff < STUFFS; stuff++) {
+                if (low[stuff] > high[stuff]) {
+                    return false;
+                }
+                least += low[stuff];
+                most += high[stuff];
             }
-            low[row] = floor[row];
-            high[row] = ceiling[row];
+            return least <= whole && whole <= most;
         }
 
-        private void setEndsOfNutrient(int row, int[] points) {
-            int fewest = MOST_POINTS;
-            int most = 0;
-            for (int stuff = 0; stuff < told.stuffs; stuff++) {
-                fewest = Math.min(fewest, points[stuff]);
-                most = Math.max(most, points[stuff]);
+        /** The least of a nutrient that stuffs within their limits can hold, or the most. */
+        private int extremeOf(int nutrient, boolean isMost) {
+            int[] points = told.points[nutrient];
+            int[] order = leanFirst[nutrient];
+            int all = 0;
+            int left = whole;
+            for (int stuff = 0; stuff < STUFFS; stuff++) {
+                all += points[stuff] * low[stuff];
+                left -= low[stuff];
             }
-            floor[row] = whole * fewest;
-            ceiling[row] = whole * most;
+            for (int place = 0; place < STUFFS; place++) {
+                int stuff = order[isMost ? STUFFS - 1 - place : place];
+                int more = Math.min(left, high[stuff] - low[stuff]);
+                all += points[stuff] * more;
+                left -= more;
+            }
+            return all;
+        }
+
+        private boolean allow(int row, long above, long under) {
+            return above >= low[row] * under && above <= high[row] * under;
+        }
+
+        private long allOf(int row, Mix mix) {
+            return row < STUFFS ? mix.amount[row] : mix.sum(told.points[row - STUFFS]);
         }
     }
 
@@ -433,17 +468,15 @@ public final class FeedMixes {
     private static final class Corners {
         private final Told told;
         private final Limits limits;
-        // What a row is if all is of the last stuff, and how it grows with each free amount, which that one loses.
+        // What a row is if the whole is of the last stuff, and how it grows as a free amount takes that one's place.
+        private final int[] ofLast = new int[ROWS];
         private final int[][] slope = new int[ROWS][FREE];
-        private final int[] whenAllIsLast = new int[ROWS];
-        // Planes are rows at a level; the first ones, of stuffs with but one amount, meet in every corner.
+        // A plane is a row at a level. The first ones go through all corners: of their stuffs one amount alone will do.
         private final int[] planeRow = new int[2 * ROWS];
         private final int[] planeLevel = new int[2 * ROWS];
         private int planes = 0;
-        private int inEvery = 0;
+        private int throughAll = 0;
         private final long[] crossAB = new long[FREE];
-        private final long[] crossBC = new long[FREE];
-        private final long[] crossCA = new long[FREE];
         private final Mix corner = new Mix();
 
         private Corners(Told told, Limits limits) {
@@ -453,10 +486,11 @@ public final class FeedMixes {
 
         private void setSlopes() {
             for (int row = 0; row < ROWS; row++) {
+                int last = pointsOf(row, FREE);
+                ofLast[row] = last * limits.whole;
                 for (int stuff = 0; stuff < FREE; stuff++) {
-                    slope[row][stuff] = pointsOf(row, stuff) - pointsOf(row, FREE);
+                    slope[row][stuff] = pointsOf(row, stuff) - last;
                 }
-                whenAllIsLast[row] = pointsOf(row, FREE) * limits.whole;
             }
         }
 
@@ -467,18 +501,17 @@ public final class FeedMixes {
             return told.points[row - STUFFS][stuff];
         }
 
-        /** Is there a corner? With a best mix all are gone over, to better it; without, the first is enough. */
+        /** Is there a corner? All are gone over if there is a best mix to be bettered; if not, the first is enough. */
         private boolean seek(Mix best) {
-            if (limits.crossEachOther()) {
+            if (!limits.leaveRoomToStuffs() || !setPlanes()) {
                 return false;
             }
-            setPlanes();
             boolean found = false;
-            for (int a = 0; a < (inEvery > 0 ? 1 : planes); a++) {
-                for (int b = a + 1; b < (inEvery > 1 ? 2 : planes); b++) {
-                    cross(a, b, crossAB);
-                    for (int c = b + 1; c < (inEvery > 2 ? 3 : planes); c++) {
-                        if (meet(a, b, c) && isWithinLimits()) {
+            for (int a = 0; a < (throughAll > 0 ? 1 : planes); a++) {
+                for (int b = a + 1; b < (throughAll > 1 ? 2 : planes); b++) {
+                    setCrossOf(a, b);
+                    for (int c = b + 1; c < (throughAll > 2 ? 3 : planes); c++) {
+                        if (isCorner(a, b, c)) {
                             if (best == null) {
                                 return true;
                             }
@@ -491,103 +524,111 @@ public final class FeedMixes {
             return found;
         }
 
-        private void setPlanes() {
+        private boolean setPlanes() {
             planes = 0;
+            addPlanesOfOneAmount();
+            throughAll = planes;
+            if (throughAll >= FREE) {
+                return true;
+            }
+            addPlanesOfStuffs();
+            return addPlanesOfNutrients();
+        }
+
+        private void addPlanesOfOneAmount() {
             for (int row = 0; row < STUFFS; row++) {
                 if (limits.low[row] == limits.high[row]) {
                     addPlane(row, limits.low[row]);
                 }
             }
-            inEvery = planes;
+        }
+
+        // No stuff can be more than the whole, so a plane there makes no corner that others do not make.
+        private void addPlanesOfStuffs() {
             for (int row = 0; row < STUFFS; row++) {
-                if (limits.low[row] != limits.high[row]) {
+                if (limits.low[row] < limits.high[row]) {
                     addPlane(row, limits.low[row]);
-                    addHighPlane(row);
+                    if (limits.high[row] < limits.whole) {
+                        addPlane(row, limits.high[row]);
+                    }
                 }
-            }
-            for (int row = STUFFS; row < ROWS; row++) {
-                if (limits.low[row] > limits.floor[row]) {
-                    addPlane(row, limits.low[row]);
-                }
-                addHighPlane(row);
             }
         }
 
-        // What no mix can pass makes no corner that other planes do not make.
-        private void addHighPlane(int row) {
-            if (limits.high[row] < limits.ceiling[row]) {
-                addPlane(row, limits.high[row]);
+        /** False if a nutrient alone tells that there is no corner; a limit that stuffs cannot pass needs no plane. */
+        private boolean addPlanesOfNutrients() {
+            for (int nutrient = 0; nutrient < NUTRIENTS; nutrient++) {
+                int row = STUFFS + nutrient;
+                int least = limits.extremeOf(nutrient, false);
+                int most = limits.extremeOf(nutrient, true);
+                if (most < limits.low[row] || least > limits.high[row]) {
+                    return false;
+                }
+                if (least < limits.low[row]) {
+                    addPlane(row, limits.low[row]);
+                }
+                if (most > limits.high[row]) {
+                    addPlane(row, limits.high[row]);
+                }
             }
+            return true;
         }
 
         private void addPlane(int row, int level) {
             if (planes < planeRow.length) {
                 planeRow[planes] = row;
-                planeLevel[planes] = level - whenAllIsLast[row];
+                planeLevel[planes] = level - ofLast[row];
                 planes++;
             }
         }
 
-        private void cross(int one, int other, long[] into) {
-            int[] p = slope[planeRow[one]];
-            int[] q = slope[planeRow[other]];
-            into[0] = p[1] * q[2] - p[2] * q[1];
-            into[1] = p[2] * q[0] - p[0] * q[2];
-            into[2] = p[0] * q[1] - p[1] * q[0];
-        }
-
-        /** Sets the corner to where three planes meet, by Cramer's rule; false if that is not one point. */
-        private boolean meet(int a, int b, int c) {
-            int[] last = slope[planeRow[c]];
-            long under = crossAB[0] * last[0] + crossAB[1] * last[1] + crossAB[2] * last[2];
+        /** Sets the corner to where three planes meet, by Cramer's rule: is that one point, and within the limits? */
+        private boolean isCorner(int a, int b, int c) {
+            int[] p = slope[planeRow[a]];
+            int[] q = slope[planeRow[b]];
+            int[] r = slope[planeRow[c]];
+            long under = crossAB[0] * r[0] + crossAB[1] * r[1] + crossAB[2] * r[2];
             if (under == 0) {
                 return false;
             }
-            cross(b, c, crossBC);
-            cross(c, a, crossCA);
             int sign = under < 0 ? -1 : 1;
             corner.under = sign * under;
             long rest = limits.whole * corner.under;
             for (int stuff = 0; stuff < FREE; stuff++) {
-                long above = planeLevel[a] * crossBC[stuff] + planeLevel[b] * crossCA[stuff]
+                long above = planeLevel[a] * cross(q, r, stuff) + planeLevel[b] * cross(r, p, stuff)
                         + planeLevel[c] * crossAB[stuff];
+                if (!limits.allow(stuff, sign * above, corner.under)) {
+                    return false;
+                }
                 corner.amount[stuff] = sign * above;
                 rest -= sign * above;
             }
             corner.amount[FREE] = rest;
-            return true;
-        }
-
-        private boolean isWithinLimits() {
-            for (int row = 0; row < ROWS; row++) {
-                long much = allOf(row, corner);
-                if (much < limits.low[row] * corner.under || much > limits.high[row] * corner.under) {
+            for (int row = FREE; row < ROWS; row++) {
+                if (!limits.allow(row, limits.allOf(row, corner), corner.under)) {
                     return false;
                 }
             }
             return true;
         }
 
-        private long allOf(int row, Mix mix) {
-            if (row < STUFFS) {
-                return mix.amount[row];
+        private void setCrossOf(int a, int b) {
+            for (int side = 0; side < FREE; side++) {
+                crossAB[side] = cross(slope[planeRow[a]], slope[planeRow[b]], side);
             }
-            return sum(told.points[row - STUFFS], mix);
+        }
+
+        private static long cross(int[] p, int[] q, int side) {
+            int next = side < 2 ? side + 1 : 0;
+            int last = next < 2 ? next + 1 : 0;
+            return p[next] * q[last] - p[last] * q[next];
         }
 
         private void offer(Mix best) {
-            corner.price = sum(told.price, corner);
+            corner.price = corner.sum(told.price);
             if (corner.isBetterThan(best)) {
                 best.become(corner);
             }
-        }
-
-        private static long sum(int[] each, Mix mix) {
-            long all = 0;
-            for (int stuff = 0; stuff < STUFFS; stuff++) {
-                all += each[stuff] * mix.amount[stuff];
-            }
-            return all;
         }
     }
 
@@ -655,12 +696,12 @@ public final class FeedMixes {
             return limits.kept;
         }
 
-        /** Of the mix that was found last. */
+        /** For the mix that was found last: the levels are still those of its weight. */
         private int tightBounds(Mix mix) {
             int tight = 0;
             for (int bound = 0; bound < BOUNDS; bound++) {
                 if (limits.isThere(bound)
-                        && corners.allOf(rowOf(bound), mix) == limits.levelOf(bound) * mix.under) {
+                        && limits.allOf(rowOf(bound), mix) == limits.levelOf(bound) * mix.under) {
                     tight |= 1 << bound;
                 }
             }
