@@ -14,7 +14,7 @@ public final class FeedMixesAgainstModel {
     private static int dearerTold = 0;
 
     public static void main(String[] args) {
-        int runs = args.length > 0 ? Integer.parseInt(args[0]) : 250;
+        int runs = args.length > 0 ? Integer.parseInt(args[0]) : 300;
         int first = args.length > 1 ? Integer.parseInt(args[1]) : 1;
         for (int run = first; run < first + runs && wrong < 20; run++) {
             new Game(run).play();
@@ -81,7 +81,7 @@ public final class FeedMixesAgainstModel {
                     }
                 }
             }
-            for (int step = 0; step < 12; step++) {
+            for (int step = 0; step < 9; step++) {
                 change();
                 if (random.nextInt(3) == 0) {
                     change();

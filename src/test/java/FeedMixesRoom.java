@@ -16,7 +16,7 @@ public final class FeedMixesRoom {
         FeedMixes made = new FeedMixes();
         sum += made.made();
         long before = countOf();
-        for (int time = 0; time < 20; time++) {
+        for (int time = 0; time < 7; time++) {
             callAll(made);
         }
         long bytes = countOf() - before;
