@@ -21,6 +21,7 @@ public final class FeedMixesEdges {
         boundsOfStuffsThatThereAreNot();
         allBoundsTight();
         noBoundTight();
+        everyBoundInPlay();
         silosFilled();
         silosAndBounds();
         silosOfAll();
@@ -475,6 +476,50 @@ public final class FeedMixesEdges {
         due("tight() as it was", x.tight(), 0);
         madeDue(x, 12);
         due("tight() at a stock", x.tight(), bits(1));
+    }
+
+    /** Each amount and each nutrient could pass its limits on both sides, were it not for bounds. */
+    private static void everyBoundInPlay() {
+        sentence = "every bound, with all of them in play";
+        FeedMixes x = stuffsOf(4, 0, 40);
+        int[] prices = {0, 100, 50, 70};
+        int[] nutrients = {2, 0, 1};
+        for (int stuff = 0; stuff < 4; stuff++) {
+            x.price(stuff, prices[stuff]);
+            x.shares(stuff, 1, 7);
+            if (stuff < 3) {
+                x.holds(stuff, nutrients[stuff], 40);
+            }
+        }
+        x.need(0, 5, 27);
+        x.need(1, 5, 27);
+        x.need(2, 5, 16);
+        // 16 points are 4 of stuff 0, 5 are 5/4 of stuff 1; of stuff 3 there is a tenth.
+        for (int mostOfLast = 7; mostOfLast >= 1; mostOfLast -= 6) {
+            x.shares(3, 1, mostOfLast);
+            madeDue(x, 10);
+            amountDue(x, 0, 4, 1);
+            amountDue(x, 1, 5, 4);
+            amountDue(x, 2, 15, 4);
+            amountDue(x, 3, 1, 1);
+            costDue(x, 765, 2);
+            due("tight()", x.tight(), mostOfLast == 1 ? bits(7, 11, 12, 17) : bits(7, 12, 17));
+            dearerDue(x, 0, 25, 2);
+            dearerDue(x, 1, 0, 1);
+            dearerDue(x, 2, 0, 1);
+        }
+        // The other way round: what was cheap is dear.
+        x.shares(3, 1, 7);
+        x.price(0, 1000);
+        x.price(1, 0);
+        x.price(3, 40);
+        x.need(0, 5, 24);
+        madeDue(x, 10);
+        amountDue(x, 0, 5, 4);
+        amountDue(x, 1, 6, 1);
+        amountDue(x, 2, 5, 4);
+        amountDue(x, 3, 3, 2);
+        due("tight()", x.tight(), bits(13, 14, 15));
     }
 
     // ---- silos ----
