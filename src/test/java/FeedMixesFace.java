@@ -22,11 +22,15 @@ public final class FeedMixesFace {
         check(face.getPackageName().isEmpty() && face.getSuperclass() == Object.class
                 && face.getInterfaces().length == 0, "a class by itself");
         checkMethods(face);
+        check(face.getDeclaredConstructors().length == 1, "one constructor");
         for (Constructor<?> each : face.getDeclaredConstructors()) {
-            check(Modifier.isPublic(each.getModifiers()) && each.getParameterCount() == 0, "constructor " + each);
+            check(each.getModifiers() == Modifier.PUBLIC && each.getParameterCount() == 0
+                    && each.getExceptionTypes().length == 0, "constructor " + each);
         }
         for (Field each : face.getDeclaredFields()) {
-            check(Modifier.isPrivate(each.getModifiers()) || each.getName().equals("NONE"), "field " + each);
+            boolean isNone = each.getName().equals("NONE") && each.getType() == int.class
+                    && each.getModifiers() == (Modifier.PUBLIC | Modifier.STATIC | Modifier.FINAL);
+            check(isNone || Modifier.isPrivate(each.getModifiers()), "field " + each);
         }
         check(FeedMixes.NONE == -1, "NONE");
         for (Class<?> inside : face.getDeclaredClasses()) {
