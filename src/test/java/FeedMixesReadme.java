@@ -12,6 +12,7 @@ import java.util.Set;
 import java.util.TreeSet;
 import java.util.regex.Matcher;
 import java.util.regex.Pattern;
+import javax.tools.JavaCompiler;
 import javax.tools.ToolProvider;
 
 /**
@@ -139,9 +140,13 @@ public final class FeedMixesReadme {
         List<Long> answers = new ArrayList<>();
         Path source = directory.resolve("Shown.java");
         Files.write(source, program);
-        int failed = ToolProvider.getSystemJavaCompiler().run(null, null, null, "-nowarn", "-d", directory.toString(),
-                "-cp", System.getProperty("java.class.path"), source.toString());
-        if (failed != 0) {
+        JavaCompiler compiler = ToolProvider.getSystemJavaCompiler();
+        if (compiler == null) {
+            tell("this java has no compiler, so what README.md shows cannot be tried");
+            return answers;
+        }
+        if (compiler.run(null, null, null, "-nowarn", "-d", directory.toString(), "-cp",
+                System.getProperty("java.class.path"), source.toString()) != 0) {
             tell("what README.md shows does not compile");
             return answers;
         }
